@@ -121,7 +121,7 @@ public final class LandDeeds {
             case 0:
                 return estate.yearOf(plot);
             case 1:
-                return asked.outline.corners();
+                return asked.outline.corners;
             case 2:
                 return Math.abs(asked.outline.twiceSignedArea());
             case 3:
@@ -145,7 +145,7 @@ public final class LandDeeds {
         if (what < 0 || what > 1) {
             return OUTSIDE;
         }
-        if (k < 0 || k >= asked.outline.corners()) {
+        if (k < 0 || k >= asked.outline.corners) {
             return NONE;
         }
         return what == 0 ? asked.outline.xs[k] : asked.outline.ys[k];
@@ -472,29 +472,26 @@ public final class LandDeeds {
     private static final class Outline {
         final int[] xs;
         final int[] ys;
+        final int corners;
 
         Outline(int[] xs, int[] ys) {
             this.xs = xs;
             this.ys = ys;
-        }
-
-        int corners() {
-            return Math.min(xs.length, ys.length);
+            this.corners = Math.min(xs.length, ys.length);
         }
 
         private int next(int corner) {
-            return corner + 1 < corners() ? corner + 1 : 0;
+            return corner + 1 < corners ? corner + 1 : 0;
         }
 
         boolean stands() {
-            int n = corners();
-            for (int i = 0; i < n; i++) {
+            for (int i = 0; i < corners; i++) {
                 if (!isPost(xs[i], ys[i]) || isMerePoint(i)) {
                     return false;
                 }
             }
-            for (int i = 0; i < n; i++) {
-                for (int j = i + 1; j < n; j++) {
+            for (int i = 0; i < corners; i++) {
+                for (int j = i + 1; j < corners; j++) {
                     if (clash(i, j)) {
                         return false;
                     }
@@ -591,7 +588,7 @@ public final class LandDeeds {
 
         int twiceSignedArea() {
             int twice = 0;
-            for (int i = 0; i < corners(); i++) {
+            for (int i = 0; i < corners; i++) {
                 int j = next(i);
                 twice += xs[i] * ys[j] - xs[j] * ys[i];
             }
@@ -604,7 +601,7 @@ public final class LandDeeds {
          */
         void measureWest(int x, Ratio twice) {
             twice.clear();
-            for (int side = 0; side < corners(); side++) {
+            for (int side = 0; side < corners; side++) {
                 int end = next(side);
                 if (xs[side] < xs[end]) {
                     addBelow(side, end, x, twice, 1);
@@ -626,7 +623,7 @@ public final class LandDeeds {
 
         String write() {
             StringBuilder signs = new StringBuilder();
-            for (int i = 0; i < corners(); i++) {
+            for (int i = 0; i < corners; i++) {
                 int j = next(i);
                 if (i > 0) {
                     signs.append(';');
@@ -656,7 +653,7 @@ public final class LandDeeds {
         Plot(Outline outline) {
             this.outline = outline;
             this.written = outline.write();
-            for (int side = 0; side < outline.corners(); side++) {
+            for (int side = 0; side < outline.corners; side++) {
                 outline.markPostsOn(side, sides);
                 outline.flipPostsWestOf(side, inside);
             }
