@@ -1,17 +1,5 @@
 /** The promises of the document one by one: ordinary inputs, the edges that it names, wrong inputs. */
-public final class PromisesTest {
-    private static final int LOWEST = Integer.MIN_VALUE, HIGHEST = Integer.MAX_VALUE;
-    private static final String LONGEST_SQUARE = "n31;e31;s31;w31";
-
-    private static int wrong = 0;
-
-    private static void due(String what, long got, long want) {
-        if (got != want) {
-            wrong++;
-            System.out.println(what + ": answered " + got + ", due is " + want);
-        }
-    }
-
+public final class PromisesTest extends LandTest {
     public static void main(String[] args) {
         newObject();
         say();
@@ -41,60 +29,7 @@ public final class PromisesTest {
         count();
         images();
         restoreLeavesTextAlone();
-        System.out.println(wrong == 0 ? "all promises hold" : wrong + " answers are wrong");
-        if (wrong != 0) {
-            System.exit(1);
-        }
-    }
-
-    private static void tell(LandDeeds land, String text) {
-        land.wipe();
-        for (int i = 0; i < text.length(); i++) {
-            due("say of " + text, land.say(text.charAt(i)), i + 1);
-        }
-    }
-
-    private static int deedOf(LandDeeds land, String text, int x, int y, int year) {
-        tell(land, text);
-        return land.deed(x, y, year);
-    }
-
-    private static LandDeeds landWith(String text, int x, int y, int year) {
-        LandDeeds land = new LandDeeds();
-        due("deed of " + text, deedOf(land, text, x, y, year), 0);
-        return land;
-    }
-
-    private static int faultOf(String text) {
-        LandDeeds land = new LandDeeds();
-        tell(land, text);
-        return land.fault();
-    }
-
-    private static String written(LandDeeds land, int plot) {
-        StringBuilder text = new StringBuilder();
-        int signs = land.sign(plot, -1);
-        for (int k = 0; k < signs; k++) {
-            text.append((char) land.sign(plot, k));
-        }
-        return text.toString();
-    }
-
-    private static void dueText(String what, String got, String want) {
-        due(what + " '" + got + "' for '" + want + "'", got.equals(want) ? 1 : 0, 1);
-    }
-
-    private static void dueCorners(LandDeeds land, int plot, int... places) {
-        due("corners", land.about(plot, 1), places.length / 2);
-        for (int k = 0; k < places.length / 2; k++) {
-            due("corner x " + k, land.corner(plot, k, 0), places[2 * k]);
-            due("corner y " + k, land.corner(plot, k, 1), places[2 * k + 1]);
-        }
-    }
-
-    private static void dueWest(LandDeeds land, int plot, int x, long upper, long lower) {
-        due("west upper at " + x, land.west(plot, x, 0), upper);
-        due("west lower at " + x, land.west(plot, x, 1), lower);
+        end("all promises hold");
     }
 
     private static void newObject() {
@@ -198,7 +133,7 @@ public final class PromisesTest {
         dueCorners(land, 0, 2, 5, 6, 5, 6, 8, 2, 8);
         due("5 second", deedOf(land, "n2e2;s2;w2", 29, 29, 999), 1);
         dueCorners(land, 1, 29, 29, 31, 31, 31, 29);
-        due("5 the whole land", deedOf(land, LONGEST_SQUARE, 0, 0, 5), 2);
+        due("5 the whole land", deedOf(land, WHOLE_LAND, 0, 0, 5), 2);
         due("5 plots", land.count(0), 3);
     }
 
@@ -415,7 +350,7 @@ public final class PromisesTest {
         due("12 y", land.lies(0, 0, 32), LandDeeds.OUTSIDE);
         due("12 y below", land.lies(0, 0, -1), LandDeeds.OUTSIDE);
         due("12 unknown ahead of outside", land.lies(1, -1, 0), LandDeeds.UNKNOWN);
-        LandDeeds all = landWith(LONGEST_SQUARE, 0, 0, 1);
+        LandDeeds all = landWith(WHOLE_LAND, 0, 0, 1);
         due("12 far corner", all.lies(0, 31, 31), 1);
         due("12 east side", all.lies(0, 31, 17), 1);
         due("12 beside it", all.lies(0, 30, 30), 2);
@@ -477,7 +412,7 @@ public final class PromisesTest {
         due("15 above", land.line(0, 2001), LandDeeds.OUTSIDE);
         due("15 lowest", land.line(0, LOWEST), LandDeeds.OUTSIDE);
         due("15 unknown ahead of outside", land.line(1, 0), LandDeeds.UNKNOWN);
-        LandDeeds all = landWith(LONGEST_SQUARE, 0, 0, 1);
+        LandDeeds all = landWith(WHOLE_LAND, 0, 0, 1);
         due("15 the last line", all.line(0, 1922), 31);
         due("15 none", all.line(0, 1923), LandDeeds.NONE);
     }
@@ -519,12 +454,6 @@ public final class PromisesTest {
         due("17 y below", land.right(0, LOWEST), LandDeeds.OUTSIDE);
     }
 
-    private static void dueGaps(LandDeeds land, int... answers) {
-        for (int what = 0; what < 5; what++) {
-            due("18 gap " + what, land.gap(what), answers[what]);
-        }
-    }
-
     private static void gap() {
         LandDeeds land = new LandDeeds();
         dueGaps(land, 1024, 1, 1024, 0, 0);
@@ -536,7 +465,7 @@ public final class PromisesTest {
         // The steps go in four ways: a row of posts at a slant parts what lies beside it.
         LandDeeds slant = landWith("n31e31;s1;s30w31", 0, 0, 5);
         dueGaps(slant, 991, 2, 496, 0, 1);
-        LandDeeds all = landWith(LONGEST_SQUARE, 0, 0, 1);
+        LandDeeds all = landWith(WHOLE_LAND, 0, 0, 1);
         dueGaps(all, 0, 0, 0, LandDeeds.NONE, LandDeeds.NONE);
     }
 
