@@ -63,7 +63,7 @@ public final class LandDeeds {
             return FULL;
         }
         text.clear();
-        return estate.add(new Plot(outline), year);
+        return estate.add(Plot.of(outline), year);
     }
 
     public int miss(int what) {
@@ -650,9 +650,18 @@ public final class LandDeeds {
         final int[] sides = new int[POSTS_A_ROW];
         final int[] held = new int[POSTS_A_ROW];
 
-        Plot(Outline outline) {
+        private Plot(Outline outline) {
             this.outline = outline;
             this.written = outline.write();
+        }
+
+        static Plot of(Outline outline) {
+            Plot plot = new Plot(outline);
+            plot.markPosts();
+            return plot;
+        }
+
+        private void markPosts() {
             for (int side = 0; side < outline.corners; side++) {
                 outline.markPostsOn(side, sides);
                 outline.flipPostsWestOf(side, inside);
