@@ -539,6 +539,10 @@ public final class EdgesTest extends LandTest {
             deedOf(land, "e4;n4;w4;s4", 10, 10, 1);
             due("19 each post is counted once", land.count(3), 25);
         }
+        LandDeeds all = landWith(WHOLE_LAND, 0, 0, 1);
+        deedOf(all, WHOLE_LAND, 0, 0, 1);
+        due("19 all posts", all.count(3), 1024);
+        due("10 all posts are lost", all.about(1, 6), 1024);
     }
 
     private static void countOfImages() {

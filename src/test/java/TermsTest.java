@@ -5,6 +5,7 @@ public final class TermsTest extends LandTest {
 
     public static void main(String[] args) {
         fractionsInLowestTerms();
+        lowestTermsOfSmallTriangles();
         lowerNumberAboveZero();
         postsAreFrom0To31();
         waysOfTheLetters();
@@ -19,6 +20,7 @@ public final class TermsTest extends LandTest {
         yearsAre1To999();
         looseIs0To20();
         missOfBothSigns();
+        missAndFarOfTheseCallsAlone();
         missAndFarAtTheirGreatest();
         shareOfTheMissIsCut();
         cornersOfAnExactShare();
@@ -70,6 +72,22 @@ public final class TermsTest extends LandTest {
         dueLowest("n9e31;n3w7;s5w11;s7w13", 0, 10);
     }
 
+    private static void lowestTermsOfSmallTriangles() {
+        for (int shape = 0; shape < 6 * 6 * 6 * 6; shape++) {
+            int px = shape % 6, py = shape / 6 % 6, qx = shape / 36 % 6, qy = shape / 216;
+            if (px * qy == qx * py) {
+                continue;
+            }
+            String text = step(py, "n", "s") + step(px, "e", "w") + ";" + step(qy - py, "n", "s")
+                + step(qx - px, "e", "w") + ";" + step(-qy, "n", "s") + step(-qx, "e", "w");
+            LandDeeds land = landWith(text, 0, 0, 1);
+            for (int x = 0; x <= 5; x++) {
+                due("lowest terms, " + text + " at " + x, divisor(land.west(0, x, 0), land.west(0, x, 1)), 1);
+            }
+            dueWest(land, 0, Math.max(px, qx), Math.abs(px * qy - qx * py), 1);
+        }
+    }
+
     private static void lowerNumberAboveZero() {
         // Where nothing lies west the fraction is 0 by 1; the way round changes no sign.
         LandDeeds left = landWith("e3;n3;w3;s3", 10, 10, 1);
@@ -80,6 +98,10 @@ public final class TermsTest extends LandTest {
         }
         dueWest(left, 0, 11, 6, 1);
         dueWest(right, 0, 11, 6, 1);
+        // Nothing is left of the fraction that was asked for before.
+        LandDeeds third = landWith("n2e6;s2;w6", 0, 0, 1);
+        dueWest(third, 0, 1, 1, 3);
+        dueWest(third, 0, 0, 0, 1);
         dueLowest("e3;n3;w3;s3", 10, 10);
         dueLowest("n3;e3;s3;w3", 10, 10);
         dueLowest(WHOLE_LAND, 0, 0);
@@ -376,6 +398,25 @@ public final class TermsTest extends LandTest {
         }
     }
 
+    private static void missAndFarOfTheseCallsAlone() {
+        // The second text has fewer calls: nothing of the first one's may be left.
+        LandDeeds land = telling(calls("n10e20", 7));
+        due("far of 7 calls", land.miss(2), 210);
+        tell(land, "n1;e1;s1w1");
+        due("far of 3 calls", land.miss(2), 4);
+        due("miss in x", land.miss(0), 1000);
+        due("miss in y", land.miss(1), 1000);
+        due("deed", land.deed(5, 5, 1), 0);
+        dueCorners(land, 0, 5, 5, 5, 6, 6, 6);
+        // A call of two legs in the first text, of one leg in the second one.
+        tell(land, "n9e9;n9e9;n9e9");
+        due("far of two legs", land.miss(2), 54);
+        tell(land, "e1;n1;e1");
+        due("far of one leg each", land.miss(2), 3);
+        due("miss in x", land.miss(0), 1002);
+        due("miss in y", land.miss(1), 1001);
+    }
+
     private static void missAndFarAtTheirGreatest() {
         LandDeeds northEast = telling(calls("n31e31", 7));
         due("48 signs", northEast.count(1), 48);
@@ -438,6 +479,27 @@ public final class TermsTest extends LandTest {
         due("deed of " + text + " at " + x + ", " + y, deedOf(land, text, x, y, 1), stands ? 0 : LandDeeds.AWRY);
     }
 
+    private static String step(int along, String onward, String back) {
+        return along > 0 ? onward + along : along < 0 ? back + -along : "";
+    }
+
+    /** The same shape begun at each CORNER, walked both ways, and with north and east exchanged. */
+    private static void dueShape(boolean stands, int... places) {
+        int n = places.length / 2;
+        for (int way = 0; way < 4 * n; way++) {
+            int turn = way % 2 == 0 ? 1 : n - 1, x = way / 2 % 2, y = 1 - x, first = way / 4, at = first;
+            StringBuilder text = new StringBuilder();
+            for (int i = 0; i < n; i++) {
+                int next = (at + turn) % n;
+                text.append(i > 0 ? ";" : "");
+                text.append(step(places[2 * next + y] - places[2 * at + y], "n", "s"));
+                text.append(step(places[2 * next + x] - places[2 * at + x], "e", "w"));
+                at = next;
+            }
+            dueStands(text.toString(), places[2 * first + x], places[2 * first + y], stands);
+        }
+    }
+
     private static void cornersMustBePosts() {
         for (int x = 0; x <= 31; x++) {
             for (int y = 0; y <= 31; y++) {
@@ -478,49 +540,57 @@ public final class TermsTest extends LandTest {
 
     private static void sidesThatHaveAPointTogether() {
         // They cross between posts, and at a post.
-        dueStands("n3e3;s3;n3w3;s3", 10, 10, false);
-        dueStands("n4e4;s4;n4w4;s4", 10, 10, false);
+        dueShape(false, 10, 10, 11, 11, 11, 10, 10, 11);
+        dueShape(false, 10, 10, 13, 13, 13, 10, 10, 13);
+        dueShape(false, 10, 10, 14, 14, 14, 10, 10, 14);
+        // The last SIDE and the second one; the first SIDE and the last but one.
+        dueShape(false, 10, 10, 14, 10, 14, 14, 18, 12);
+        dueShape(false, 10, 10, 16, 10, 16, 13, 13, 13, 13, 9);
         // A CORNER on the middle of a SIDE, from within and from without; without the touch both stand.
-        dueStands("e8;n4;s4w4;n4w4;s4", 10, 10, false);
-        dueStands("e8;n4;s3w4;n3w4;s4", 10, 10, true);
-        dueStands("e10;n2;w8;n4;s4e4;n6;w6;s8", 10, 10, false);
-        dueStands("e10;n2;w8;n4;s3e4;n5;w6;s8", 10, 10, true);
+        dueShape(false, 10, 10, 18, 10, 18, 14, 14, 10, 10, 14);
+        dueShape(true, 10, 10, 18, 10, 18, 14, 14, 11, 10, 14);
+        dueShape(false, 10, 10, 20, 10, 20, 12, 12, 12, 12, 16, 16, 12, 16, 18, 10, 18);
+        dueShape(true, 10, 10, 20, 10, 20, 12, 12, 12, 12, 16, 16, 13, 16, 18, 10, 18);
+        // A CORNER on the middle of a SIDE at a slant, and a step beside it.
+        dueShape(false, 10, 10, 18, 18, 10, 18, 14, 14, 10, 12);
+        dueShape(true, 10, 10, 18, 18, 10, 18, 13, 14, 10, 12);
         // Two CORNERS at one POST.
-        dueStands("e4;n4;e4;n4;w4;s4;w4;s4", 10, 10, false);
+        dueShape(false, 10, 10, 14, 10, 14, 14, 18, 14, 18, 18, 14, 18, 14, 14, 10, 14);
+        dueShape(false, 10, 10, 14, 14, 18, 10, 18, 18, 14, 14, 10, 18);
         // SIDES of one line, the one within the other, and the one partly on the other.
-        dueStands("e8;n4;w2;s4;w4;n4;w2;s4", 10, 10, false);
-        dueStands("e4;n4;w2;s4;e4;s2;w6;n2", 10, 10, false);
-        // The first SIDE and the last but one; the last SIDE and the second.
-        dueStands("e6;n3;w3;s4;n1w3", 10, 10, false);
-        dueStands("e4;n4;s2e4;s2w8", 10, 10, false);
+        dueShape(false, 10, 10, 18, 10, 18, 14, 16, 14, 16, 10, 12, 10, 12, 14, 10, 14);
+        dueShape(false, 10, 10, 14, 10, 14, 14, 12, 14, 12, 10, 16, 10, 16, 8, 10, 8);
     }
 
     // ---- "but for two that follow one another (the first one follows the last one), which have just the CORNER .."
 
     private static void sidesThatFollowOneAnother() {
-        // Straight on at a CORNER, and at the first CORNER.
-        dueStands("e2;e2;n4;w4;s4", 10, 10, true);
-        dueStands("e2;n4;w4;s4;e2", 10, 10, true);
-        // Back on the SIDE: by less than it, by just as much, by more; and at the first CORNER.
-        dueStands("e4;w2;n4w2;s4", 10, 10, false);
-        dueStands("e4;w4;n4;s4", 10, 10, false);
-        dueStands("e4;w6;n4e2;s4", 10, 10, false);
-        dueStands("e4;n4;w2;s4;w2", 10, 10, false);
-        // The same at a slant.
-        dueStands("n2e2;n2e2;e4;s2w4;s2w4", 10, 10, true);
-        dueStands("n4e4;s2w2;e4;s2w6", 10, 10, false);
+        // Straight on at a CORNER, and at a slant.
+        dueShape(true, 10, 10, 12, 10, 14, 10, 14, 14, 10, 14);
+        dueShape(true, 10, 10, 12, 12, 14, 14, 18, 14, 14, 12);
+        // Back on the SIDE: by less than it, by just as much, by more.
+        dueShape(false, 10, 10, 14, 10, 12, 10, 10, 14);
+        dueShape(false, 10, 10, 14, 10, 10, 10, 10, 14);
+        dueShape(false, 10, 10, 14, 10, 8, 10, 10, 14);
+        dueShape(false, 10, 10, 14, 14, 12, 12, 16, 12);
+        // The same with steps of 1 alone.
+        dueShape(false, 10, 10, 11, 10, 10, 10, 10, 11);
+        dueShape(false, 10, 10, 11, 10, 11, 11, 11, 10, 12, 10, 12, 9, 10, 9);
         // A triangle without an area.
-        dueStands("e4;e4;w8", 10, 10, false);
-        dueStands("n2e2;n2e2;s4w4", 10, 10, false);
+        dueShape(false, 10, 10, 14, 10, 18, 10);
+        dueShape(false, 10, 10, 12, 12, 14, 14);
+        dueShape(false, 10, 10, 11, 10, 12, 10);
     }
 
     private static void sidesThatComeNear() {
         // Two SIDES of one line that are apart.
-        dueStands("e2;n2;e2;s2;e2;n4;w6;s4", 10, 10, true);
+        dueShape(true, 10, 10, 12, 10, 12, 12, 14, 12, 14, 10, 16, 10, 16, 14, 10, 14);
         // The lines of the SIDES cross, the SIDES do not.
-        dueStands("e8;n8;w1;s6w3;n6w3;w1;s8", 10, 10, true);
+        dueShape(true, 10, 10, 18, 10, 18, 18, 17, 18, 14, 12, 11, 18, 10, 18);
+        // A CORNER on the line of a SIDE, but beyond its end.
+        dueShape(true, 10, 10, 14, 10, 14, 12, 18, 10, 18, 14, 10, 14);
         // A sliver: from 0, 0 to 31, 30 and back by 30, 29.
-        dueStands("n30e31;s1w1;s29w30", 0, 0, true);
+        dueShape(true, 0, 0, 31, 30, 30, 29);
     }
 
     // ---- "A POST is INSIDE a PLOT, if it lies in it, and on no SIDE. A PLOT HOLDS a POST, if it is INSIDE, or on a SIDE."
@@ -601,6 +671,10 @@ public final class TermsTest extends LandTest {
         LandDeeds level = landWith("e30;n1;w30;s1", 0, 2, 1);
         deedOf(level, "e30;n1;w30;s1", 1, 6, 1);
         dueGaps(level, 900, 1, 900, 0, 0);
+        // A roof of one POST's breadth on a floor: no step leads over it into the 15 POSTS below.
+        LandDeeds roof = landWith("n5e5;s5e5;n4w5;s4w5", 10, 10, 1);
+        deedOf(roof, "e10;n1;w10;s1", 10, 9, 1);
+        dueGaps(roof, 992, 2, 977, 0, 0);
         // East of the last POST of a row does not come the first one of the next row.
         LandDeeds rows = landWith("e29;n31;w29;s31", 1, 0, 1);
         dueGaps(rows, 64, 2, 32, 0, 0);
