@@ -7,7 +7,8 @@ import java.util.regex.Pattern;
 
 /** Long mixed runs, each call answered by the class and by a slow model that goes other ways to the answers. */
 public final class ModelTest {
-    private static final int RUNS = 1500, CALLS = 512;
+    // A deed that is begun is told to its end, some calls beyond CALLS: all within the 512 that are promised.
+    private static final int RUNS = 1500, CALLS = 500;
 
     private static int wrong = 0;
     private static final int[] plotsSeen = new int[7];
